@@ -184,7 +184,7 @@ public final class TagFlow {
     static final int FALSE = 16;
 
     private static final String SIGNS = "()[],;=<+-*/%&|!";
-    private static final int MOST_LETTERS = 6;
+    static final int MOST_LETTERS = 6;
     private static final int MOST_DIGITS = 10;
     /** The WORDS, packed as a NAME's letters are, in the order of their kinds from LET on. */
     private static final long[] WORDS = {

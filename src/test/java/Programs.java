@@ -132,10 +132,10 @@ final class Programs {
       case 1: return "(" + x(type, scope, d) + ")";
       case 2: return call(type, scope, d);
       case 3: return (type == 1 ? "-" : "!") + atom(type, scope, d);
-      case 4: if (type == 1) {
-        return atom(3, scope, d) + "[" + x(1, scope, d) + "]";
-      }
       default: break;
+    }
+    if (type == 1 && random.nextInt(3) == 0) {
+      return (random.nextBoolean() ? atom(3, scope, d) : tab(scope, d)) + "[" + x(1, scope, d) + "]";
     }
     String signs = type == 1 ? "+-*/%" : random.nextBoolean() ? "|&" : "=<";
     char sign = signs.charAt(random.nextInt(signs.length()));
@@ -195,9 +195,10 @@ final class Programs {
   /** A tape that has a FAULT, most likely. */
   String spoilt() {
     StringBuilder tape = new StringBuilder(program());
+    boolean onlyNames = random.nextBoolean();
     for (int i = 1 + random.nextInt(3); i > 0; i--) {
       int place = random.nextInt(tape.length() + 1);
-      switch (random.nextInt(4)) {
+      switch (onlyNames ? 3 : random.nextInt(4)) {
         case 0:
           tape.delete(place, Math.min(tape.length(), place + 1 + random.nextInt(3)));
           break;
