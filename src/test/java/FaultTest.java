@@ -82,6 +82,10 @@ public final class FaultTest {
     Check.fault("t(n)=1<2<3;", 1, 8);
     Check.fault("t(n)=1<2=3;", 1, 8);
     Check.fault("t(n)=(1<2)=3;", 3, 5);
+    Check.fault("t(n)=let a=1 in 1=2=3;", 1, 19);
+    Check.fault("t(n)=if true then true else 1=2=3;", 1, 31);
+    Check.fault("t(n)=loop a=1 while 1=2=3 next a=1 give true;", 1, 23);
+    Check.fault("t(n)=loop a=1 while 1=2 next a=1 give 1=2=3;", 1, 41);
     Check.fault("t(n)=1<2&3=4|5<6;", 0, 0);
     Check.fault("f(n)=let n in n;", 1, 11);
     Check.fault("f(n)=let =1 in n;", 1, 9);
@@ -135,6 +139,11 @@ public final class FaultTest {
     Check.fault("f(n)=" + "f(".repeat(20) + "n" + ")".repeat(20) + ";", 1, 45);
     Check.fault("f(n)=" + "f(".repeat(20), 1, 45);
     Check.fault("f(n)=" + "(n)+".repeat(30) + nineteen + "n" + ")".repeat(19) + ";", 0, 0);
+    Check.fault("f(n)=" + "(tab z[i<1]of 1)[0]+".repeat(22) + "f(n);", 0, 0);
+    Check.fault("f(x)=" + "f(x)+x[1]+".repeat(40) + nineteen + "1" + ")".repeat(19) + ";", 0, 0);
+    TagFlow x = new TagFlow();
+    Check.due("open ones", Check.compile(x, "f(n)=" + nineteen), Check.ILLEGAL_ARGUMENT);
+    Check.due("are of no account later", Check.compile(x, "f(n)=(((n)));"), 1);
     Check.fault("f(n)=" + "n+".repeat(200) + nineteen + "n" + ")".repeat(19) + ";", 0, 0);
     Check.fault("f(n)=" + "if ".repeat(160) + ";", 1, 485);
     Check.fault("f(n)=" + "-".repeat(490) + "n;", 0, 0);

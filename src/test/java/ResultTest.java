@@ -29,6 +29,14 @@ public final class ResultTest {
     Check.run("f()=(tab z[i<2] of z[1-i])[0]+1;", 5, 3, 0, NO);
     Check.run("x()=tab z[i<2] of z[1-i];", 5, 2, 3, 2);
     Check.run("f()=let v=tab z[i<1] of z[0] in 5;", 2, 2, 1, 5);
+    TagFlow x = Check.program("f()=1+1;g()=(tab z[i<1] of z[0])[0];");
+    Check.start(x, 0);
+    Check.fire(x, 9, 1);
+    Check.due("value", Check.value(x), 2);
+    Check.start(x, 1);
+    Check.fire(x, 9, 1);
+    Check.due("a DEADLOCK behind a value", x.state(), 3);
+    Check.due("value", Check.value(x), NO);
   }
 
   private static void cells() {
