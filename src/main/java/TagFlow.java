@@ -10,7 +10,8 @@ public final class TagFlow {
   public static final int NONE = -1;
 
   private static final int MOST_CHARACTERS = 500;
-  private static final int MOST_PARAMETERS = 4;
+  /** Of parameters, of arguments, of the NAMES of a loop. */
+  private static final int MOST_NAMES = 4;
   private static final int MOST_FUNCTIONS = 8;
   private static final int MOST_EVENTS_A_CALL = 2000;
   private static final int MOST_EVENTS_IN_ALL = 5000;
@@ -30,20 +31,14 @@ public final class TagFlow {
   private static final int TOO_LONG = 4;
 
   private final byte[] tape = new byte[MOST_CHARACTERS];
-  private final long[] given = new long[MOST_PARAMETERS];
-  private final Parser parser;
-  private final Machine machine;
-  private Graph graph = new Graph();
-  /** A tape with a FAULT must leave the PROGRAM as it is, so each is built beside the one in use. */
-  private Graph spare = new Graph();
+  private final long[] given = new long[MOST_NAMES];
+  private final Parser parser = new Parser();
+  private final Machine machine = new Machine();
   private int typed;
   private int eventsInAll;
   private int runs;
 
-  public TagFlow() {
-    parser = new Parser(spare);
-    machine = new Machine(graph);
-  }
+  public TagFlow() {}
 
   public boolean type(long word, int n) {
     if (n < 1 || n > 8 || typed + n > MOST_CHARACTERS) {
@@ -69,14 +64,13 @@ public final class TagFlow {
   public int compile() throws IllegalArgumentException {
     int length = typed;
     typed = 0;
-    if (!parser.read(tape, length, spare)) {
+    if (!parser.read(tape, length)) {
       throw new IllegalArgumentException();
     }
-    Graph old = graph;
-    graph = spare;
-    spare = old;
-    machine.stop();
-    return graph.layout.functions;
+    Graph old = machine.graph;
+    machine.load(parser.graph);
+    parser.graph = old;
+    return machine.graph.layout.functions;
   }
 
   public int fault(int what) {
@@ -91,6 +85,7 @@ public final class TagFlow {
   }
 
   public boolean start(int n, long a, long b, long c, long d) {
+    Graph graph = machine.graph;
     if (n < 0 || n >= graph.layout.functions || !graph.takesNumbers(n)) {
       return false;
     }
@@ -98,7 +93,7 @@ public final class TagFlow {
     given[1] = b;
     given[2] = c;
     given[3] = d;
-    machine.begin(graph, n, given);
+    machine.begin(n, given);
     runs++;
     return true;
   }
@@ -155,7 +150,7 @@ public final class TagFlow {
       case 1:
         return eventsInAll;
       case 2:
-        return graph.layout.functions;
+        return machine.graph.layout.functions;
       case 3:
         return runs;
       default:
@@ -346,12 +341,12 @@ public final class TagFlow {
     }
   }
 
-  /** The nodes of a PROGRAM. Which of the arrays a kind of node uses, and for what, is told there. */
+  /** The nodes of a PROGRAM; each kind tells for what it uses left, right and region. */
   private static final class Graph {
     static final int CONSTANT = 1;
     /** A NAME where it is used; left is its variable. */
     static final int USE = 2;
-    /** Where a NAME is bound; in a loop, left is its first X, right no longer NONE once next binds it. */
+    /** Where a NAME is bound; of a loop, left its first X, right not NONE once next binds it. */
     static final int VARIABLE = 3;
     static final int UNARY = 4;
     static final int BINARY = 5;
@@ -361,7 +356,7 @@ public final class TagFlow {
     static final int CHOICE = 7;
     /** Left the first argument, right the FUNCTION. */
     static final int CALL = 8;
-    /** Left its first variable, right the condition, region that of while; then those of next, give. */
+    /** Left its first variable, right the condition, region that of while, then next, give. */
     static final int LOOP = 9;
     /** Left the size, right the variable of the table, whose sibling is that of the index. */
     static final int TAB = 10;
@@ -486,7 +481,7 @@ public final class TagFlow {
 
     boolean takesNumbers(int function) {
       int node = layout.parameter[function];
-      for (int i = 0; i < MOST_PARAMETERS && node != NONE && type[node] == NUMBER; i++) {
+      for (int i = 0; i < MOST_NAMES && node != NONE && type[node] == NUMBER; i++) {
         node = sibling[node];
       }
       return node == NONE;
@@ -596,12 +591,13 @@ public final class TagFlow {
     private static final int NOTHING = 5;
 
     final Fault fault = new Fault();
+    /** Apart from the PROGRAM in use, which a tape with a FAULT must leave as it is. */
+    Graph graph = new Graph();
     private final Tokens tokens = new Tokens();
     private final Opens opens = new Opens();
     /** The variables that are known at this place. */
     private final int[] known = new int[MOST_NODES];
     private int knownSize;
-    private Graph graph;
     private int at;
     private int due;
     /** The root of the operand, or X, that was read last. */
@@ -610,12 +606,7 @@ public final class TagFlow {
     /** The loop of which a NAME is due. */
     private int loop;
 
-    Parser(Graph first) {
-      graph = first;
-    }
-
-    boolean read(byte[] tape, int length, Graph into) {
-      graph = into;
+    boolean read(byte[] tape, int length) {
       graph.clear();
       fault.clear();
       tokens.read(tape, length);
@@ -673,8 +664,8 @@ public final class TagFlow {
 
     private boolean parameters(int function) {
       boolean more = kindHere() != ')';
-      for (int i = 0; i <= MOST_PARAMETERS && more; i++) {
-        if (kindHere() != Tokens.NAME || i == MOST_PARAMETERS) {
+      for (int i = 0; i <= MOST_NAMES && more; i++) {
+        if (kindHere() != Tokens.NAME || i == MOST_NAMES) {
           return refuse();
         }
         int variable = bindHere();
@@ -858,7 +849,7 @@ public final class TagFlow {
 
     private boolean openFirstValue() {
       int first = graph.left[loop];
-      if (kindHere() != Tokens.NAME || graph.chainLength(first) == MOST_PARAMETERS) {
+      if (kindHere() != Tokens.NAME || graph.chainLength(first) == MOST_NAMES) {
         return refuse();
       }
       if (graph.findInChain(first, tokens.number[at]) != NONE) {
@@ -1089,7 +1080,7 @@ public final class TagFlow {
       if (kind == ',') {
         at++;
         due = WHOLE;
-        return graph.chainLength(graph.left[call]) < MOST_PARAMETERS || refuse();
+        return graph.chainLength(graph.left[call]) < MOST_NAMES || refuse();
       }
       opens.pop();
       brackets--;
@@ -1136,7 +1127,7 @@ public final class TagFlow {
 
     private boolean openWhilePart() {
       int variable = graph.left[loop];
-      for (int i = 0; i < MOST_PARAMETERS && variable != NONE; i++) {
+      for (int i = 0; i < MOST_NAMES && variable != NONE; i++) {
         know(variable);
         variable = graph.sibling[variable];
       }
@@ -1171,7 +1162,7 @@ public final class TagFlow {
     private boolean openGivePart() {
       int template = graph.layout.template[graph.region[loop]];
       int variable = graph.left[loop];
-      for (int i = 0; i < MOST_PARAMETERS && variable != NONE; i++) {
+      for (int i = 0; i < MOST_NAMES && variable != NONE; i++) {
         if (graph.right[variable] != NONE) {
           graph.moveTo(variable, template);
           graph.role[graph.left[variable]] = Graph.HAND_IN;
@@ -1213,7 +1204,7 @@ public final class TagFlow {
         return;
       }
       graph.right[call] = function;
-      for (int i = 0; i < MOST_PARAMETERS && argument != NONE && variable != NONE; i++) {
+      for (int i = 0; i < MOST_NAMES && argument != NONE && variable != NONE; i++) {
         graph.target[argument] = variable;
         checkType(argument, graph.type[variable]);
         argument = graph.sibling[argument];
@@ -1353,16 +1344,16 @@ public final class TagFlow {
     private static final int NO_SUCH_CELL = 2;
     private static final int NO_SUCH_SIZE = 3;
 
+    Graph graph = new Graph();
     final Store store = new Store();
     int events;
     int resultSort;
     long resultWord;
     private final Frames frames = new Frames();
     private final Chains chains = new Chains();
-    /** The EVENTS that can happen; with so many more are of no account, for they won't end in time. */
+    /** The EVENTS that can happen; once it is full the RUN is TOO LONG, so more need no room. */
     private final int[] ready = new int[MOST_EVENTS + 1];
     private int readySize;
-    private Graph graph;
     private boolean begun;
     /** The chain of nodes at which something may go on without an EVENT. */
     private int awake;
@@ -1373,11 +1364,8 @@ public final class TagFlow {
     private int sort;
     private long word;
 
-    Machine(Graph first) {
-      graph = first;
-    }
-
-    void stop() {
+    void load(Graph program) {
+      graph = program;
       begun = false;
       events = 0;
     }
@@ -1392,8 +1380,7 @@ public final class TagFlow {
       return resultSort == Store.MISSING ? DEADLOCK : ENDED;
     }
 
-    void begin(Graph program, int function, long[] given) {
-      graph = program;
+    void begin(int function, long[] given) {
       begun = true;
       events = 0;
       resultSort = Store.MISSING;
@@ -1406,7 +1393,7 @@ public final class TagFlow {
       int region = graph.layout.functionRegion[function];
       int root = openFrame(region, NONE, NONE);
       int variable = graph.layout.parameter[function];
-      for (int i = 0; i < MOST_PARAMETERS && variable != NONE; i++) {
+      for (int i = 0; i < MOST_NAMES && variable != NONE; i++) {
         store.put(slotOf(root, variable), NUMBER, given[i]);
         variable = graph.sibling[variable];
       }
@@ -1526,7 +1513,7 @@ public final class TagFlow {
       int round = openFrame(region, inFrame, loop);
       store.word[slotOf(inFrame, loop) + 1] = round;
       int variable = graph.left[loop];
-      for (int i = 0; i < MOST_PARAMETERS && variable != NONE; i++) {
+      for (int i = 0; i < MOST_NAMES && variable != NONE; i++) {
         if (graph.role[graph.left[variable]] == Graph.HAND_IN) {
           handIn(inFrame, graph.left[variable], round);
         }
@@ -1736,7 +1723,7 @@ public final class TagFlow {
       int inner = openFrame(region, inFrame, event);
       store.word[slotOf(inFrame, event) + 1] = inner;
       int argument = graph.left[event];
-      for (int i = 0; i < MOST_PARAMETERS && argument != NONE; i++) {
+      for (int i = 0; i < MOST_NAMES && argument != NONE; i++) {
         handIn(inFrame, argument, inner);
         argument = graph.sibling[argument];
       }
