@@ -8,6 +8,8 @@ final class Check {
 
   private static int answers = 0;
   private static int wrong = 0;
+  /** The words of the document that are under test, for the tests that go by these. */
+  private static String sentence = "";
 
   private Check() {}
 
@@ -15,8 +17,23 @@ final class Check {
     answers++;
     if (got != want) {
       wrong++;
-      System.out.println(call + " answered " + got + ", due is " + want);
+      String of = sentence.isEmpty() ? "" : " (\"" + sentence + "\")";
+      System.out.println(call + " answered " + got + ", due is " + want + of);
     }
+  }
+
+  static void due(String call, boolean got, boolean want) {
+    due(call, got ? 1 : 0, want ? 1 : 0);
+  }
+
+  /** A test of its own for some words of the document, which must stand there. */
+  static void sentence(String words, Runnable test) {
+    sentence = words;
+    int before = answers;
+    test.run();
+    due("the number of tests of this is above 0", answers > before, true);
+    due("it stands in the document", Document.has(words), true);
+    sentence = "";
   }
 
   /** Ends the test: exit code 1 if an answer was wrong. */
@@ -110,6 +127,37 @@ final class Check {
       due("kind of " + call, x.kind(), kind);
       due("value of " + call, value(x), value);
     }
+  }
+
+  /** Fires one EVENT a call: what is seen must not depend on the schedules, nor come early. */
+  static void steps(String text, int events, int state, int kind, long value, long... given) {
+    for (long schedule = 0; schedule < 3; schedule++) {
+      TagFlow x = program(text);
+      due("start of " + text, start(x, 0, given), true);
+      for (int i = 1; i <= events; i++) {
+        String call = text + " ahead of EVENT " + i + " with schedule " + schedule;
+        due("state of " + call, x.state(), 1);
+        due("kind of " + call, x.kind(), 0);
+        due("value of " + call, value(x), NO_SUCH_ELEMENT);
+        due("fire of " + call, fire(x, 1, schedule * i), i);
+      }
+      due("count(0) of " + text, x.count(0), events);
+      due("state of " + text, x.state(), state);
+      due("kind of " + text, x.kind(), kind);
+      due("value of " + text, value(x), value);
+    }
+  }
+
+  /** A tape without a FAULT. */
+  static void sound(String text) {
+    fault(text, 0, 0);
+  }
+
+  /** A tape with a ^ (which is no TOKEN) where the FAULT is; without that, at its end. */
+  static void faultAt(int kind, String marked) {
+    int mark = marked.indexOf('^');
+    String text = marked.replace("^", "");
+    fault(text, kind, mark < 0 ? text.length() : mark);
   }
 
   static void fault(String text, int kind, int place) {
