@@ -34,6 +34,21 @@ public final class CallBoundaryTest {
       Check.due("fire", Check.fire(x, 2000, run), 493);
     }
     Check.due("call 512", Check.value(x), -5);
+    fullTapes("f(n)=" + "-".repeat(493) + "n;", 1);
+    fullTapes("f(n)=" + "n+".repeat(246) + "n ;", 1);
+    fullTapes("f(n)=" + "-".repeat(495), Check.ILLEGAL_ARGUMENT);
+    fullTapes("f(n)=" + "if ".repeat(165), Check.ILLEGAL_ARGUMENT);
+    fullTapes("f()=" + "loop a=".repeat(70) + "loop a", Check.ILLEGAL_ARGUMENT);
+    fullTapes("f()=" + "let a=".repeat(82) + "   ?", Check.ILLEGAL_ARGUMENT);
+  }
+
+  /** A tape of 500 characters eight times: 512 calls, each time as if it were the first one. */
+  private static void fullTapes(String text, long due) {
+    TagFlow x = new TagFlow();
+    Check.due("characters of " + text, text.length(), 500);
+    for (int i = 0; i < 8; i++) {
+      Check.due("compile of " + text, Check.compile(x, text), due);
+    }
   }
 
   private static void none() {
@@ -159,6 +174,12 @@ public final class CallBoundaryTest {
     Check.due("compile", Check.compile(x, "f()=1;"), 1);
     Check.due("it is gone", Check.compile(x), Check.ILLEGAL_ARGUMENT);
     Check.due("compile", Check.compile(x, "g()=2;f()=1;"), 2);
+    String[][] longAndShort = {{"f()=12345678901", "f()=1"}, {"f()=abcdefghi", "f()=a"}, {"f()=1;", "f()=1"}};
+    for (String[] pair : longAndShort) {
+      Check.due("the longer one", Check.compile(x, pair[0] + "?"), Check.ILLEGAL_ARGUMENT);
+      Check.due("the shorter one", Check.compile(x, pair[1]), Check.ILLEGAL_ARGUMENT);
+      Check.due("ends where it ends", x.fault(1), 5);
+    }
     Check.due("a full one", Check.compile(x, "f()=1;" + " ".repeat(494)), 1);
     Check.due("another full one", Check.compile(x, "f()=5;" + " ".repeat(494)), 1);
     Check.start(x, 0);

@@ -150,6 +150,11 @@ public final class FormBoundaryTest {
     }
     Check.faultAt(1, "t()=1<^=2;");
     Check.faultAt(1, "t()=1=^=2;");
+    // The X of a tab ends ahead of a second one, which may stand behind the tab as an operand.
+    Check.faultAt(3, "t()=^tab z[i<1] of 1<2<3;");
+    Check.faultAt(1, "t()=tab z[i<1] of 1<2<3^<4;");
+    Check.faultAt(1, "t()=1<tab z[i<1] of 1<2^<3;");
+    Check.faultAt(3, "t()=1<^tab z[i<1] of 1<2&true;");
   }
 
   private static void fromTheLeft() {
@@ -263,6 +268,12 @@ public final class FormBoundaryTest {
     Check.faultAt(1, "f()=loop a=1 while true next a^<1 give 1;");
     Check.faultAt(1, "f()=loop a=1^;");
     Check.faultAt(1, "f()=1^,2;");
+    Check.faultAt(1, "f()=1^(2);");
+    Check.faultAt(1, "f()=(1)^(2);");
+    Check.faultAt(1, "f(x)=x[1]^(2);");
+    Check.faultAt(1, "f()=g()^(2);");
+    Check.faultAt(1, "f()=1 ^if true then 1 else 2;");
+    Check.faultAt(1, "f()=1^!true;");
   }
 
   /** Cut behind any TOKEN but a ; of a FUNCTION, blanks behind it or not. */
@@ -279,6 +290,9 @@ public final class FormBoundaryTest {
     Check.faultAt(1, "f()=m+true");
     Check.faultAt(1, "f()=" + "1+".repeat(248));
     Check.faultAt(1, "f()=1" + " ".repeat(495));
+    Check.faultAt(1, "f()=" + " ".repeat(495) + "1");
+    Check.faultAt(1, "f(n)=" + " ".repeat(494) + "n");
+    Check.faultAt(1, "f(n)=" + " ".repeat(491) + "true");
   }
 
   private static void fifthParameter() {

@@ -20,6 +20,7 @@ public final class RoomTest {
     dear("f(n)=" + "f(".repeat(19) + "n" + ")".repeat(19) + ";");
     dear(loops());
     manyCalls();
+    manyPrograms();
     Check.end();
   }
 
@@ -58,6 +59,21 @@ public final class RoomTest {
       }
     }
     Check.due("room of many RUNS", room(x), before);
+  }
+
+  /** What a PROGRAM leaves behind in the rows would make the RUNS of a later one dearer. */
+  private static void manyPrograms() {
+    TagFlow x = new TagFlow();
+    long first = 0;
+    for (int i = 0; i < 12; i++) {
+      Check.due("compile", Check.compile(x, "f(n)=f(n)" + "+1".repeat(100) + ";"), 1);
+      Check.start(x, 0, 1);
+      if (x.count(1) < 5000) {
+        Check.fire(x, 400, i);
+      }
+      first = i == 0 ? room(x) : first;
+      Check.due("room of PROGRAM " + i, room(x), first);
+    }
   }
 
   /** The objects, fields and elements that hang on an object. */

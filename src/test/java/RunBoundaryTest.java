@@ -134,6 +134,10 @@ public final class RunBoundaryTest {
     Check.run("f()=loop a=1,b=2,k=0 while k<2 next k=k+1,b=a,a=b give a*10+b;", 10, 2, 1, 12);
     Check.run("f(n)=loop k=0,m=0 while k<n next k=k+1,m=m+k give m;", 4 * 4 + 2, 2, 1, 6, 4);
     Check.run("f(n)=loop k=0,m=0 while k<n next m=m+k,k=k+1 give m;", 4 * 4 + 2, 2, 1, 6, 4);
+    String four = "f()=loop a=1,b=2,c=3,d=4 while a<9 next ";
+    String digits = " give a*1000+b*100+c*10+d;";
+    Check.run(four + "a=a+b,b=c,c=d,d=a" + digits, 3 * 3 + 2 + 6, 2, 1, 10136);
+    Check.run(four + "d=a,c=d,b=c,a=a+b" + digits, 3 * 3 + 2 + 6, 2, 1, 10136);
   }
 
   private static void operators() {
