@@ -180,6 +180,8 @@ public final class CallBoundaryTest {
       Check.due("the shorter one", Check.compile(x, pair[1]), Check.ILLEGAL_ARGUMENT);
       Check.due("ends where it ends", x.fault(1), 5);
     }
+    Check.due("calls of none", Check.compile(x, "f(n)=g(g(g(g(g(1)))));"), Check.ILLEGAL_ARGUMENT);
+    Check.due("are gone", Check.compile(x, "f(n)=n;"), 1);
     Check.due("a full one", Check.compile(x, "f()=1;" + " ".repeat(494)), 1);
     Check.due("another full one", Check.compile(x, "f()=5;" + " ".repeat(494)), 1);
     Check.start(x, 0);

@@ -7,6 +7,8 @@ import java.util.IdentityHashMap;
 public final class RoomTest {
   private static final long MOST_AT_FIRST = 50_000;
   private static final long MOST_AT_ALL = 2_000_000;
+  /** Of all that a run of calls makes, kept or not; the rows grow by doubling, so it is little more. */
+  private static final long MOST_BYTES_MADE = 20_000_000;
 
   public static void main(String[] args) {
     Check.due("room of a new object", room(new TagFlow()) < MOST_AT_FIRST ? 1 : 0, 1);
@@ -38,12 +40,15 @@ public final class RoomTest {
   }
 
   private static void dear(String text) {
+    long before = madeBytes();
     TagFlow x = Check.program(text);
     for (int i = 0; i < 5; i++) {
       Check.start(x, 0, 1);
       Check.due("fire of " + text, Check.fire(x, 2000, i), 1000);
       Check.due("state of " + text, x.state(), 4);
     }
+    long made = madeBytes() - before;
+    Check.due("bytes made " + made + " of " + text, made < MOST_BYTES_MADE, true);
     long room = room(x);
     Check.due("room " + room + " of " + text, room < MOST_AT_ALL ? 1 : 0, 1);
   }
@@ -74,6 +79,13 @@ public final class RoomTest {
       first = i == 0 ? room(x) : first;
       Check.due("room of PROGRAM " + i, room(x), first);
     }
+  }
+
+  private static long madeBytes() {
+    java.lang.management.ThreadMXBean threads =
+        java.lang.management.ManagementFactory.getThreadMXBean();
+    boolean counts = threads instanceof com.sun.management.ThreadMXBean;
+    return counts ? ((com.sun.management.ThreadMXBean) threads).getCurrentThreadAllocatedBytes() : 0;
   }
 
   /** The objects, fields and elements that hang on an object. */

@@ -84,6 +84,7 @@ public final class RunBoundaryTest {
     Check.run("f()=g(never(),2);g(a,b)=b*b;" + NEVER, 5, 2, 1, 4);
     Check.run("f()=g(never(),2);g(a,b)=b*b+a;" + NEVER, 5, 3, 0, NO);
     Check.run("f()=g(1,2,3,never());g(a,b,c,d)=if a<b then c else d;" + NEVER, 6, 2, 1, 3);
+    Check.run("f()=g(1,2,3,4);g(a,b,c,d)=a*1000+b*100+c*10+d;", 7, 2, 1, 1234);
     Check.run("f(n)=f(n);", 1000, 4, 0, NO, 5);
     Check.run("f(n)=g(f(n));g(n)=7;", 1000, 4, 0, NO, 5);
   }
